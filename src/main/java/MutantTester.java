@@ -69,7 +69,8 @@ public final class MutantTester {
         return mutants.count;
     }
 
-    public int mutant(int m, int what) throws IllegalStateException, IndexOutOfBoundsException, IllegalArgumentException {
+    public int mutant(int m, int what)
+            throws IllegalStateException, IndexOutOfBoundsException, IllegalArgumentException {
         needCompiled();
         needMutant(m, 1);
         switch (what) {
@@ -245,7 +246,7 @@ public final class MutantTester {
      * Folder folds it, each told the one place that is changed and what stands there instead.
      */
     private static final class Code {
-        /** At most 7 pieces come of 6 characters (?x<x{}), so 60 characters make no more than 70. */
+        /** At most 5 pieces come of 4 characters (&x<x), so 60 characters make no more than 75. */
         static final int MOST = 80;
 
         // The first five are the sites, and their numbers the kinds of mutants.

@@ -177,6 +177,10 @@ public final class PromiseTests {
         due(4, "a comparison", () -> countOf("!x<y;"));
         due(8, "an and", () -> countOf("!x<y&x>y;"));
         due(8, "an or", () -> countOf("!x<y|x>y;"));
+        String pieces = "?x<y" + "&x<y".repeat(13) + "{}";
+        due(1 + 14 * 3 + 13, pieces, () -> countOf(pieces));
+        dueClass(56, pieces, 56);
+        dueRun("?x=y" + "&x=y".repeat(12) + "{^7;}", 2, 2, 0, 7, 0);
         due(119, "119", () -> countOf(sum("^", 3, 26)));
         due(120, "120", () -> countOf(sum("a=x;^", 7, 20)));
         due(STATE, "121", () -> countOf(sum("^", 4, 25)));
@@ -338,6 +342,20 @@ public final class PromiseTests {
         dueClass(2, "^1+1;", 8);
         dueClass(3, "^1+1;", 9);
         dueClass(4, "^1+1;", 7);
+        // x - 1, x * 1, x / 1, x % 1; x + 2, x + 0.
+        int[] behind = {1, 2, 3, 3, 5, 6, 3};
+        for (int m = 1; m <= 7; m++) {
+            dueClass(behind[m - 1], "^x+1;", m);
+        }
+        // 2 + x, 0 + x; 1 - x, 1 * x, 1 / x, 1 % x.
+        int[] ahead = {1, 2, 3, 4, 3, 6, 7};
+        for (int m = 1; m <= 7; m++) {
+            dueClass(ahead[m - 1], "^1+x;", m);
+        }
+        // All statements of the row that is taken come, in their order: with the last one left out another is last.
+        dueClass(0, "?1<2{a=x;b=y;a=a;}", 11);
+        dueClass(9, "?1<2{a=x;b=y;a=a;}", 9);
+        dueClass(10, "?1<2{a=x;b=y;a=a;}", 10);
         // A statement left out of a while is as one that folds away.
         dueClass(0, "@x<1{a=a;}", 7);
         dueClass(7, "@x<1{a=b;}", 7);
@@ -558,6 +576,20 @@ public final class PromiseTests {
         zero.test(3, 0);
         zero.matrix();
         due(false, "class 0", () -> zero.killed(2, 0));
+        MutantTester many = of(sum("a=x;^", 7, 20));
+        many.test(3, 0);
+        many.matrix();
+        due(true, "mutant 120", () -> many.killed(120, 0));
+        write(many, "^9;");
+        many.compile();
+        many.test(3, 0);
+        many.matrix();
+        write(many, "?x<0{^9;}");
+        many.compile();
+        many.test(3, 0);
+        many.matrix();
+        due(false, "what was killed before", () -> many.killed(1, 0));
+        due(2, "x > 0 and x # 0 are killed", () -> many.score(1));
         MutantTester not = of("^x;");
         not.test(1, 1);
         due(STATE, "no matrix", () -> not.killed(1, 0));
