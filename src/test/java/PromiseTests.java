@@ -5,22 +5,53 @@ public final class PromiseTests extends SentenceTests {
     private static final String LOOP = "@x>a{a=a+1;}^a*y;";
 
     public static void main(String[] args) {
-        promise1();
-        promise2();
-        promise3();
-        promise4();
-        promise4Limit();
-        promise4Throws();
-        promise5();
-        promise6();
-        promise7();
-        promise8();
-        promises9And10();
-        promise11();
-        promise12();
-        promise13();
-        promise14();
+        part(PromiseTests::promise1);
+        part(PromiseTests::promise2);
+        part(PromiseTests::promise3);
+        part(PromiseTests::promise4);
+        part(PromiseTests::promise4Limit);
+        part(PromiseTests::promise4Throws);
+        part(PromiseTests::promise5);
+        part(PromiseTests::promise6);
+        part(PromiseTests::promise7);
+        part(PromiseTests::promise8);
+        part(PromiseTests::promises9And10);
+        part(PromiseTests::promise11);
+        part(PromiseTests::promise12);
+        part(PromiseTests::promise13);
+        part(PromiseTests::promise14);
         finish();
+    }
+
+    private interface Refused {
+        Object by(MutantTester t);
+    }
+
+    /** An object that is used already, and a new one, are as they were when such calls were refused. */
+    private static void dueAsItWas(Object want, Refused... calls) {
+        String text = "@a<x{a=a+9;}^a;";
+        MutantTester used = compiled(text);
+        used.fuel(3);
+        used.test(20, 0);
+        used.test(1, 0);
+        used.matrix();
+        used.run(0, 10, 0);
+        String before = seenOf(used);
+        MutantTester fresh = typed("^x");
+        for (Refused call : calls) {
+            due(want, "refused", () -> call.by(used));
+            due(STATE, "refused by a new one", () -> call.by(fresh));
+        }
+        due(before, "all that was there", () -> seenOf(used));
+        dueRun(used, "the fuel", 0, 28, 0, 3, 0, 3);
+        due(2, "the next test", () -> used.test(0, 0));
+        due(text.length() + 1, "the text", () -> used.type(';'));
+        due(STATE, "nothing is compiled", () -> fresh.run(0, 0, 0));
+        due(0, "value", fresh::value);
+        due(0, "took", fresh::took);
+        due(3, "the text", () -> fresh.type(';'));
+        due(1, "compile of it", fresh::compile);
+        due(0, "the first test", () -> fresh.test(1, 1));
     }
 
     private static void promise1() {
@@ -98,13 +129,13 @@ public final class PromiseTests extends SentenceTests {
         due(1, "when it is empty again", () -> full.type('x'));
 
         sentence("2: what is compiled stays as it was");
-        MutantTester kept = tested("^x+4;", 1, 1);
-        kept.run(0, 5, 0);
+        MutantTester kept = tested(LOOP, 1, 1);
+        kept.run(0, 3, 5);
         String before = seenOf(kept);
         kept.type('a');
         kept.type((char) 7);
         due(before, "all", () -> seenOf(kept));
-        dueRun(kept, "what was compiled", 0, 6, 0, 0, 10, 0);
+        dueRun(kept, "what was compiled", 0, 4, 6, 0, 24, 4);
     }
 
     private static void promise3() {
@@ -116,16 +147,25 @@ public final class PromiseTests extends SentenceTests {
         t.wipe();
         t.wipe();
         due(1, "of an empty one too", () -> t.type('^'));
+        MutantTester shorter = compiled("a=x;^y;");
+        write(shorter, "a=x");
+        due(ARGUMENT, "the ; that stood behind it is not there", shorter::compile);
+        shorter.type(';');
+        due(1, "nor the ^y;", shorter::compile);
 
         sentence("3: (what is compiled stays)");
-        MutantTester kept = tested("^x+4;", 1, 1);
-        kept.run(0, 5, 0);
+        MutantTester kept = compiled(LOOP);
+        kept.fuel(4);
+        kept.test(2, 3);
+        due(16 - 3, "matrix: a * 1, a / 1 and a + 0 are as the statement left out", kept::matrix);
+        kept.run(0, 3, 5);
         String before = seenOf(kept);
         kept.wipe();
         due(before, "all", () -> seenOf(kept));
-        dueRun(kept, "what was compiled", 0, 6, 0, 0, 10, 0);
+        due(13, "matrix", kept::matrix);
+        dueRun(kept, "what was compiled", 0, 4, 6, 0, 24, 4);
+        dueRun(kept, "the fuel", 0, 5, 6, 3, 0, 4);
         due(1, "the next test", () -> kept.test(0, 0));
-        due(7 * 2, "matrix", kept::matrix);
     }
 
     private static void promise4() {
@@ -187,17 +227,14 @@ public final class PromiseTests extends SentenceTests {
         fuelled.compile();
         dueRun(fuelled, "second", 0, 0, 0, 3, 0, 9);
 
-        sentence("4: what many programs, one behind the other, leave is as little as what one leaves");
-        MutantTester many = new MutantTester();
-        for (int i = 0; i < 60; i++) {
-            write(many, i % 2 == 0 ? "^x+0;" : "!1<2;");
-            many.compile();
+        sentence("4: the classes of what was compiled are gone");
+        MutantTester classes = new MutantTester();
+        for (int i = 0; i < 40; i++) {
+            write(classes, i % 2 == 0 ? "!1<2;" : "^x+0;");
+            due(i % 2 == 0 ? 8 : 7, "compile", classes::compile);
+            due(i % 2 == 0 ? 0 : 1, "class of 1", () -> classes.mutant(1, 3));
+            due(i % 2 == 0 ? 2 : 0, "class of 2", () -> classes.mutant(2, 3));
         }
-        due(0, "! with TRUE is none", () -> many.mutant(1, 3));
-        write(many, "^x+0;");
-        due(7, "compile", many::compile);
-        due(0, "x - 0", () -> many.mutant(2, 3));
-        due(3, "x * 0", () -> many.mutant(3, 3));
     }
 
     private static void promise4Limit() {
@@ -205,6 +242,7 @@ public final class PromiseTests extends SentenceTests {
         dueNoPrograms("a", "a=x", "^123;", " ", "^x; ", "^(((((x)))));", "x".repeat(60), "}", "?x<1{}{}{}");
         due(ARGUMENT, "many mutants, but no program", () -> countOf(sum("^", 29, 0).replace(';', '+')));
         due(ARGUMENT, "no program behind many mutants", () -> countOf(sum("^", 28, 0) + "a"));
+        due(ARGUMENT, "a bracket behind many mutants", () -> countOf(sum("^", 28, 0) + "}"));
 
         sentence("4: 120 mutants are taken");
         String conditions = "!1<1" + "&1<1".repeat(11) + "+1+1+1+1;";
@@ -319,13 +357,9 @@ public final class PromiseTests extends SentenceTests {
             due(ARGUMENT, "what " + what, () -> t.mutant(1, what));
         }
 
-        sentence("5: it changes nothing");
-        MutantTester kept = tested("^x+4;", 1, 1);
-        kept.run(0, 5, 0);
-        String before = seenOf(kept);
-        answer(() -> kept.mutant(1, 9));
-        answer(() -> kept.mutant(9, 1));
-        due(before, "all", () -> seenOf(kept));
+        sentence("5: what throws leaves all as it was");
+        dueAsItWas(INDEX, of -> of.mutant(0, 0), of -> of.mutant(99, 0), of -> of.mutant(-1, 9));
+        dueAsItWas(ARGUMENT, of -> of.mutant(1, 4), of -> of.mutant(1, -1));
     }
 
     private static void promise6() {
@@ -349,7 +383,10 @@ public final class PromiseTests extends SentenceTests {
 
         sentence("6: IllegalStateException if nothing is compiled");
         due(STATE, "test", () -> new MutantTester().test(0, 0));
-        due(STATE, "typed, but not compiled", () -> typed("^x;").test(0, 0));
+        MutantTester early = typed("^x;");
+        due(STATE, "typed, but not compiled", () -> early.test(0, 0));
+        due(1, "compile", early::compile);
+        due(0, "no test is there", () -> early.test(0, 0));
 
         sentence("6: or there are eight");
         due(STATE, "the ninth", () -> t.test(1, 2));
@@ -455,8 +492,9 @@ public final class PromiseTests extends SentenceTests {
         for (int m : NO_MUTANTS) {
             due(INDEX, "run " + m, () -> loop.run(m, 0, 0));
         }
-        due(before, "what throws changes nothing", () -> seenOf(loop));
+        due(before, "all", () -> seenOf(loop));
         due(1, "the last one, 0 % 0", () -> loop.run(16, 0, 0));
+        dueAsItWas(INDEX, of -> of.run(99, 4, 4), of -> of.run(-1, 4, 4));
 
         sentence("8: the matrix and the tests stay");
         MutantTester kept = tested("^x+4;", 1, 1);
@@ -582,7 +620,10 @@ public final class PromiseTests extends SentenceTests {
 
         sentence("11: IllegalStateException if nothing is compiled");
         due(STATE, "matrix", () -> new MutantTester().matrix());
-        due(STATE, "typed, but not compiled", () -> typed("^x;").matrix());
+        MutantTester early = typed("^x;");
+        due(STATE, "typed, but not compiled", early::matrix);
+        due(1, "compile", early::compile);
+        due(STATE, "there is no matrix", () -> early.score(0));
     }
 
     private static int matrixOf(String text, int... inputs) {
@@ -642,6 +683,9 @@ public final class PromiseTests extends SentenceTests {
 
         sentence("12: IndexOutOfBoundsException if there is no such mutant (from 1 on) or test");
         dueNoSuch((of, m, test) -> () -> of.killed(m, test));
+
+        sentence("12: what throws leaves all as it was");
+        dueAsItWas(INDEX, of -> of.killed(0, 0), of -> of.killed(99, 0), of -> of.killed(1, 2), of -> of.killed(1, -1));
     }
 
     private interface Asked {
@@ -714,6 +758,9 @@ public final class PromiseTests extends SentenceTests {
 
         sentence("13: Exceptions as with killed: no such mutant or test");
         dueNoSuch((of, m, test) -> () -> of.reached(m, test));
+
+        sentence("13: what throws leaves all as it was");
+        dueAsItWas(INDEX, of -> of.reached(0, 0), of -> of.reached(99, 0), of -> of.reached(1, 2), of -> of.reached(1, -1));
     }
 
     private static void promise14() {
@@ -755,5 +802,8 @@ public final class PromiseTests extends SentenceTests {
             due(ARGUMENT, "what " + what, () -> made.score(what));
         }
         due(1, "the matrix stays", () -> made.score(0));
+
+        sentence("14: what throws leaves all as it was");
+        dueAsItWas(ARGUMENT, of -> of.score(2), of -> of.score(-1));
     }
 }

@@ -4,26 +4,26 @@ public final class TermsTests extends SentenceTests {
     private static final String LONGEST = "a=x;".repeat(13) + "^10+x*1;";
 
     public static void main(String[] args) {
-        text();
-        statements();
-        expressions();
-        conditions();
-        brackets();
-        numbers();
-        decisions();
-        fuel();
-        outcomes();
-        sites();
-        operators();
-        constantsAndStatements();
-        reached();
-        foldedNumbers();
-        foldedConditions();
-        foldedStatements();
-        equalTrees();
-        stays();
-        classes();
-        killed();
+        part(TermsTests::text);
+        part(TermsTests::statements);
+        part(TermsTests::expressions);
+        part(TermsTests::conditions);
+        part(TermsTests::brackets);
+        part(TermsTests::numbers);
+        part(TermsTests::decisions);
+        part(TermsTests::fuel);
+        part(TermsTests::outcomes);
+        part(TermsTests::sites);
+        part(TermsTests::operators);
+        part(TermsTests::constantsAndStatements);
+        part(TermsTests::reached);
+        part(TermsTests::foldedNumbers);
+        part(TermsTests::foldedConditions);
+        part(TermsTests::foldedStatements);
+        part(TermsTests::equalTrees);
+        part(TermsTests::stays);
+        part(TermsTests::classes);
+        part(TermsTests::killed);
         finish();
     }
 
@@ -542,70 +542,61 @@ public final class TermsTests extends SentenceTests {
         dueSame("!x<y|2<1;", "!x<y;");
     }
 
-    /** Of two statements that fold to equal ones either may be left out: what is left is equal. */
-    private static void dueSame(String one, String other) {
-        dueEqual(one, other, true);
-    }
-
-    private static void dueOther(String one, String other) {
-        dueEqual(one, other, false);
-    }
-
-    private static void dueEqual(String one, String other, boolean equal) {
-        MutantTester t = typed(one + other);
-        int many = t.compile();
-        int second = 1;
-        while (second <= many && (t.mutant(second, 0) != one.length() || t.mutant(second, 1) != 4)) {
-            second++;
-        }
-        int without = second;
-        due(equal, one + " and " + other + " are equal", () -> t.mutant(1, 3) == t.mutant(without, 3));
-        due(1, "the class without " + one, () -> t.mutant(1, 3));
-    }
-
     private static void foldedStatements() {
         sentence("? with TRUE or FALSE becomes the statements of the row that is taken");
         dueSame("?1<2{a=x;}{a=y;}", "a=x;");
         dueSame("?2<1{a=x;}{a=y;}", "a=y;");
         dueFoldedAway("?1<2{}", "?2<1{}", "?1<2{a=a;}", "?2<1{a=1;}", "?1<2{}{a=1;}", "?2<1{a=1;}{!1<2;}");
         dueStays("?1<2{a=1;}", "?2<1{}{a=1;}", "?x<1{}", "?x<1{}{}");
-        dueClass(9, "?1<2{a=x;b=y;a=a;}", 9);
-        dueClass(10, "?1<2{a=x;b=y;a=a;}", 10);
-        dueClass(0, "?1<2{a=x;b=y;a=a;}", 11);
+        dueStays("?1<2{a=x;b=y;a=a;}", 5);
+        dueStays("?1<2{a=x;b=y;a=a;}", 9);
+        dueFoldedAway("?1<2{a=x;b=y;a=a;}", 13);
+        dueFoldedAway("?2<1{a=x;b=y;}{c=x;}", 5);
+        dueFoldedAway("?2<1{a=x;b=y;}{c=x;}", 9);
+        dueStays("?2<1{a=x;b=y;}{c=x;}", 15);
 
         sentence("@ with FALSE, ! with TRUE and v=v; become none");
         dueFoldedAway("@2<1{a=1;}", "@2<1{}", "!1<2;", "a=a;", "f=f;", "a=(a);", "a=((a));");
         dueStays("a=b;", "a=x;", "b=a;", "a=0;");
-        dueClass(0, "@x<1{a=a;}", 7);
-        dueClass(7, "@x<1{a=b;}", 7);
-        dueClass(0, "?x<1{}{!1<2;}", 7);
+        dueFoldedAway("@x<1{a=a;}", 5);
+        dueStays("@x<1{a=b;}", 5);
+        dueFoldedAway("?x<1{}{!1<2;}", 7);
 
         sentence("statements behind a ^ in one row");
-        dueClass(0, "^1;a=2;", 4);
+        dueStays("^1;a=2;", 0);
+        dueFoldedAway("^1;a=2;", 3);
         dueClass(0, "^1;a=2;", 5);
         dueClass(0, "^1;a=2;", 6);
-        dueClass(0, "^1;^2;", 4);
-        dueClass(0, "^1;@x<1{}", 4);
-        dueClass(0, "?x<1{^1;a=2;}", 10);
-        dueClass(0, "?x<1{}{^1;a=2;}", 10);
-        dueClass(0, "@x<1{^1;a=2;}", 10);
-        dueClass(1, "^1;a=2;", 1);
-        dueClass(4, "a=2;^1;", 4);
+        dueFoldedAway("^1;^2;", 3);
+        dueFoldedAway("^1;!x<y;", 3);
+        dueFoldedAway("^1;?x<1{^3;}{^2;}", 3);
+        dueFoldedAway("^1;@x<1{}b=x;", 3);
+        dueFoldedAway("^1;@x<1{}b=x;", 9);
+        dueFoldedAway("?x<1{^1;a=2;}", 8);
+        dueFoldedAway("?x<1{}{^1;a=2;}", 10);
+        dueFoldedAway("@x<1{^1;a=2;}", 8);
+        dueStays("a=2;^1;", 0);
+        dueStays("a=2;^1;", 4);
 
         sentence("(also where it came there of a ?) are left out");
-        dueClass(0, "?1<2{^1;}^2;", 12);
-        dueClass(0, "?2<1{}{^1;}^2;", 12);
-        dueClass(0, "?1<2{?1<2{^1;}}a=1;^2;", 20);
-        dueClass(0, "?1<2{?1<2{^1;}}a=1;^2;", 23);
-        dueClass(0, "?x<1{?1<2{^1;}a=2;}", 18);
-        dueClass(1, "?1<2{^1;}^2;", 10);
-        dueClass(12, "?2<1{^1;}^2;", 12);
+        dueFoldedAway("?1<2{^1;}^2;", 9);
+        dueFoldedAway("?2<1{}{^1;}^2;", 11);
+        dueFoldedAway("?1<2{?1<2{^1;}}a=1;^2;", 15);
+        dueFoldedAway("?1<2{?1<2{^1;}}a=1;^2;", 19);
+        dueFoldedAway("?x<1{?1<2{^1;}a=2;}", 14);
+        dueFoldedAway("?1<2{?1<2{^1;}a=2;}", 14);
+        dueStays("?1<2{^1;}^2;", 0);
+        dueStays("?1<2{^1;}^2;", 5);
+        dueStays("?2<1{^1;}^2;", 9);
+        dueStays("?1<2{}{^1;}^2;", 11);
 
         sentence("in one row: not behind a row that has a ^");
-        dueClass(10, "?x<1{^1;}^2;", 10);
-        dueClass(13, "?x<1{^1;}{^2;}^3;", 13);
-        dueClass(10, "@1<2{^1;}^2;", 10);
-        dueClass(10, "?x<1{^1;}{a=2;}", 10);
+        dueStays("?x<1{^1;}^2;", 9);
+        dueStays("?x<1{}{^1;}^2;", 11);
+        dueStays("?x<1{^1;}{^2;}^3;", 14);
+        dueStays("?x<1{^1;}{^2;}^3;", 10);
+        dueStays("@x<1{^1;}^2;", 9);
+        dueStays("@1<2{^1;}^2;", 9);
     }
 
     private static void equalTrees() {
@@ -626,6 +617,9 @@ public final class TermsTests extends SentenceTests {
         dueOther("a=x+y;", "a=y+x;");
         dueOther("!x<y;", "!y>x;");
         dueOther("!x<1&y<1;", "!y<1&x<1;");
+        dueOther("!x<1&y<1;", "!x<1&a<1;");
+        dueOther("!x<1|y<1;", "!x<1&y<1;");
+        dueOther("!x<y;", "!x<a;");
         dueOther("a=x;", "b=x;");
         dueOther("?x<1{a=1;}", "@x<1{a=1;}");
         dueOther("?x<1{a=1;}{a=2;}", "?x<1{a=2;}{a=1;}");
@@ -640,32 +634,53 @@ public final class TermsTests extends SentenceTests {
     private static void stays() {
         sentence("All else stays: 0 - E");
         dueStays("a=0-a;");
-        dueClass(4, "^0+x;", 4);
-        sentence("E * 0");
-        dueStays("a=a*0;", "a=0*a;");
+        dueOther("a=0-x;", "a=x;");
+
+        sentence("All else stays: E * 0");
         dueOther("a=x*0;", "a=0;");
-        sentence("x - x");
+        dueOther("a=0*x;", "a=0;");
+        dueOther("a=x*0;", "a=0*x;");
+
+        sentence("All else stays: x - x");
         dueStays("a=a-a;", "!x-x=0;");
         dueOther("b=x-x;", "b=0;");
-        sentence("C & FALSE");
+
+        sentence("All else stays: C & FALSE");
         dueStays("@x<1&2<1{}", "!x<1&2<1;");
         dueOther("!x<1&2<1;", "!2<1;");
         dueOther("!x<1&2<1;", "!x<1;");
-        sentence("C | TRUE");
+
+        sentence("All else stays: C | TRUE");
         dueStays("!x<1|1<2;", "?x<1|1<2{}");
         dueOther("?x<1|1<2{a=1;}", "a=1;");
         dueOther("!x<1|1<2;", "!x<1;");
-        sentence("@ with TRUE");
+
+        sentence("All else stays: @ with TRUE");
         dueStays("@1<2{}", "@1<2{^1;}");
         dueOther("@1<2{a=1;}", "a=1;");
-        sentence("! with FALSE");
+        dueStays("@1<2{}a=1;", 6);
+
+        sentence("All else stays: ! with FALSE");
         dueStays("!1>2;", "!1<1;");
         dueClass(0, "!2<1;^9;", 3);
-        dueClass(9, "!2<1;^9;", 9);
-        sentence("? with two empty rows");
+        dueStays("!2<1;^9;", 5);
+
+        sentence("All else stays: ? with two empty rows");
         dueStays("?x<1{}", "?x<1{}{}", "?x<1{a=a;}{!1<2;}");
-        sentence("All else stays");
+
+        sentence("All else stays.");
         dueStays("a=a%1;", "a=1/a;", "a=1%a;", "a=1-a;", "a=a/a;", "a=a+a;", "a=a+1-1;", "a=1+a-1;", "a=0/a;", "!x=x;", "!x<1|x<1;", "a=1;a=1;", "^0;", "^a;");
+        dueOther("a=x%1;", "a=0;");
+        dueOther("a=x/x;", "a=1;");
+        dueOther("a=x%x;", "a=0;");
+        dueOther("a=0/x;", "a=0;");
+        dueOther("a=0%x;", "a=0;");
+        dueOther("a=x+1+1;", "a=x+2;");
+        dueOther("a=x*2;", "a=x+x;");
+        dueOther("!x#x;", "!2<1;");
+        dueOther("!x<1&x<1;", "!x<1;");
+        dueOther("?x<1{a=1;}{a=1;}", "a=1;");
+
         sentence("C & FALSE & D is [C & FALSE] & D, from left to right as + is, and stays");
         dueOther("!x<1&2<1&y<1;", "!x<1&2<1;");
     }

@@ -38,6 +38,17 @@ abstract class SentenceTests {
         wrong = 0;
     }
 
+    /** Some sentences; what throws where nothing should is a wrong answer of the one that is asked then. */
+    static void part(Runnable sentences) {
+        try {
+            sentences.run();
+        } catch (RuntimeException e) {
+            asked++;
+            wrong++;
+            System.out.println(words + ": threw " + e + " at " + e.getStackTrace()[0]);
+        }
+    }
+
     static void finish() {
         end();
         System.out.println(passed + " passed, " + failed + " failed");
@@ -78,7 +89,7 @@ abstract class SentenceTests {
 
     static MutantTester compiled(String text) {
         MutantTester t = typed(text);
-        t.compile();
+        due(true, text + " is compiled", () -> t.compile() >= 0);
         return t;
     }
 
@@ -150,17 +161,46 @@ abstract class SentenceTests {
         due(classes.length, text + " compile", () -> countOf(text));
     }
 
-    /** Mutant 1 leaves the first statement out: it is of class 0 if that statement folds away, else of its own. */
+    /** Without its first statement the program is the same. */
     static void dueFoldedAway(String... texts) {
         for (String text : texts) {
-            dueClass(0, text, 1);
+            dueFoldedAway(text, 0);
         }
     }
 
+    static void dueFoldedAway(String text, int place) {
+        due(true, text + " is the same without the statement at " + place, () -> classWithout(text, place) == 0);
+    }
+
+    /** Without its first statement the program is another one. */
     static void dueStays(String... texts) {
         for (String text : texts) {
-            dueClass(1, text, 1);
+            dueStays(text, 0);
         }
+    }
+
+    static void dueStays(String text, int place) {
+        due(false, text + " is the same without the statement at " + place, () -> classWithout(text, place) == 0);
+    }
+
+    /** Of two statements the folded ones are equal: what is left without the one is what is left without the other. */
+    static void dueSame(String one, String other) {
+        due(true, one + " is as " + other, () -> classWithout(one + other, 0) == classWithout(one + other, one.length()));
+    }
+
+    static void dueOther(String one, String other) {
+        due(false, one + " is as " + other, () -> classWithout(one + other, 0) == classWithout(one + other, one.length()));
+    }
+
+    private static int classWithout(String text, int place) {
+        MutantTester t = typed(text);
+        int many = t.compile();
+        for (int m = 1; m <= many; m++) {
+            if (t.mutant(m, 0) == place && t.mutant(m, 1) == 4) {
+                return t.mutant(m, 3);
+            }
+        }
+        throw new IllegalArgumentException("no statement at " + place);
     }
 
     /** All places of which a mutant is reached by the test. */
