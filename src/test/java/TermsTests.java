@@ -597,6 +597,15 @@ public final class TermsTests extends SentenceTests {
         dueStays("?x<1{^1;}{^2;}^3;", 10);
         dueStays("@x<1{^1;}^2;", 9);
         dueStays("@1<2{^1;}^2;", 9);
+
+        sentence("in one row: nor in a row within other rows, however many statements stand ahead");
+        for (int n = 0; n < 6; n++) {
+            String ahead = "?x<x{^x;}" + "a=x;".repeat(n);
+            dueStays(ahead + "?x<x{b=x;}", ahead.length() + 5);
+            dueStays(ahead + "?x<x{?x<x{b=x;}}", ahead.length() + 10);
+            dueStays(ahead + "?x<x{}{?x<x{b=x;}}", ahead.length() + 12);
+            dueStays(ahead + "?x<x{?x<x{?x<x{b=x;}}}", ahead.length() + 15);
+        }
     }
 
     private static void equalTrees() {
